@@ -793,6 +793,7 @@ public final class BeginJudge {
             if (u >= UNITS) {
                 return refuse(TOO_MANY);
             }
+            next++;
             if (!readHead(u)) {
                 return false;
             }
@@ -811,7 +812,7 @@ public final class BeginJudge {
         }
 
         private boolean readHead(int u) {
-            if (!mustTake(UNIT_WORD) || kind[next] != CAPITAL) {
+            if (kind[next] != CAPITAL) {
                 return refuse(CANT_STAND);
             }
             int letter = number[next];

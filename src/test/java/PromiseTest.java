@@ -44,6 +44,7 @@ public final class PromiseTest {
         promise25();
         promise26();
         promise27();
+        fullest();
         Check.end();
     }
 
@@ -98,6 +99,15 @@ public final class PromiseTest {
         told("blanks everywhere", " unit A { var x = ( 1 + 2 ) ; fun f { A . x = 3 ; give A . x ; } do A . f ( ) ; } main { } ", 1);
         told("999 and 0", "main{do 999*0*000;}", 0);
         told("the longest text", "main{do 1;}" + " ".repeat(589), 0);
+        fault("as many signs as bytes", "{".repeat(600), 1, 0);
+        BeginJudge y = Check.told(HALF);
+        y.lazy(0);
+        y.fewest(0);
+        Check.tell(y, "unit A{var x=2;}unit B{}main{do A.x;}");
+        Check.same("3: another RUN behind another text", 2, y.value(0, 'x' - 'a'));
+        Check.same("3: and other ORDERS", 2, y.fewest(2));
+        Check.tell(y, "unit A{var x=3;}");
+        Check.same("3: the STEPS of old are gone", 0, y.value(0, 'x' - 'a'));
     }
 
     private static void told(String what, String text, int units) {
@@ -126,6 +136,9 @@ public final class PromiseTest {
         faultAt(1, "unit |AB{}");
         faultAt(1, "unit |Aa{}");
         faultAt(1, "unit |AZ{}");
+        faultAt(1, "unit |Az{}");
+        faultAt(1, "unit |AB");
+        faultAt(1, "unit A{var |xz");
         faultAt(1, "unit A|1{}");
         faultAt(1, "|units A{}");
         faultAt(1, "unit A:|{}");
@@ -431,7 +444,14 @@ public final class PromiseTest {
             more.append("fun ").append(c).append("{give B.").append((char) (c + 1)).append("();}");
         }
         lazyIs(low + more + "fun j{give 5;}}main{do A.a();}", 0, 0, 0, 2, 2, 0, 23, 0);
-        lazyIs(low + more + "fun j{give C.x;}}unit C{var x;}main{do A.a();}", 0, 0, 0, 2, 2, 0, 23, 1);
+        lazyIs(low + more + "fun j{give C.x+1;}}unit C{var x;}main{do A.a();}", 0, 0, 0, 2, 2, 0, 23, 1);
+        // B is BEGUN by the last WORK, so its VARIABLE is not MADE, and it is not DONE.
+        BeginJudge last = Check.told(dear("do A.c();".repeat(5) + "do " + "A.a()+".repeat(7) + "A.a();do B.x;")
+                .replace("unit B{", "unit B{var x=5;"));
+        Check.same("11: WORK of just 3,000", 3000, last.lazy(6));
+        Check.same("11: TOO MUCH", 1, last.lazy(7));
+        Check.same("11: BEGUN, not DONE", 1, last.state(1));
+        Check.same("11: not MADE", 0, last.value(1, 'x' - 'a'));
     }
 
     private static void promise12() {
@@ -473,6 +493,8 @@ public final class PromiseTest {
         Check.throwsIt("13: no name", Check.NO_SUCH, () -> x.value(0, 26));
         Check.throwsIt("13: no name", Check.NO_SUCH, () -> x.value(0, -1));
         Check.throwsIt("13: no UNIT", Check.NO_SUCH, () -> x.value(1, 'v' - 'a'));
+        Check.throwsIt("13: no UNIT", Check.NO_SUCH, () -> x.value(-1, 'v' - 'a'));
+        Check.throwsIt("13: no UNIT", Check.NO_SUCH, () -> x.value(7, 'v' - 'a'));
     }
 
     private static void promise14() {
@@ -599,6 +621,21 @@ public final class PromiseTest {
         // A is dear, and so is MAIN: no ORDER has room for both.
         String dear = dear("do A.c();".repeat(3)).replace("unit B{do 1;}", "unit B{do A.c()+A.c()+A.c();}");
         Check.same("20: what is ahead counts as WORK", 1000000, Check.told(dear).fewest(0));
+        // A begun takes 1, B 2, five calls of c 2925, eight of a 72.
+        String just = dear("do A.c();".repeat(5) + "do " + "A.a()+".repeat(7) + "A.a();");
+        Check.same("20: WORK of just 3,000", 3000, Check.told(just).eager(1, 6));
+        Check.same("20: is not TOO MUCH", 0, Check.told(just).fewest(0));
+        String over = just.replace("unit B{do 1;}", "unit B{do 1+1;}");
+        Check.same("20: one more is", 1000000, Check.told(over).fewest(0));
+        // G begins once, whoever TOUCHES it first, and sees itself half made then.
+        String empty = "unit A{}unit B{}unit C{}unit D{}unit E{}";
+        BeginJudge last = Check.told(empty + "unit F{do G.y;}unit G{do G.y;var y=1;}");
+        Check.same("20: the last UNIT begins once", 1, last.fewest(0));
+        Check.same("20: in any ORDER", 5040, last.fewest(2));
+        BeginJudge half = Check.told(empty + "unit F{var x=G.y+1;var z=3;}unit G{var y=F.z+F.x;}");
+        Check.same("20: G ahead of F", 1, half.fewest(0));
+        Check.same("20: the least of these", 123465, half.fewest(1));
+        Check.same("20: half of all", 2520, half.fewest(2));
     }
 
     private static void promise21() {
@@ -657,6 +694,43 @@ public final class PromiseTest {
         Check.throwsIt("24: another what", Check.ILLEGAL, () -> x.least(-1));
         BeginJudge y = Check.told("unit A{}unit B{}");
         Check.same("24: the least of all", 1, y.least(1));
+    }
+
+    /** All that there can be: 7 UNITS with 12 MEMBERS, 600 bytes, all UNITS in one ring. */
+    private static void fullest() {
+        StringBuilder s = new StringBuilder();
+        for (char u = 'A'; u <= 'G'; u++) {
+            s.append("unit ").append(u).append("{var x=").append(u == 'G' ? 'A' : (char) (u + 1)).append(".x;");
+            s.append("do 1;".repeat(11)).append("}");
+        }
+        s.append("main{do G.x;}");
+        BeginJudge x = Check.told(s.append(" ".repeat(600 - s.length())).toString());
+        Check.same("all: MEMBERS", 84, x.told(2));
+        Check.same("all: ON", 84, x.told(3));
+        for (int u = 0; u < 7; u++) {
+            Check.same("all: MEMBERS of a UNIT", 12, x.unit(u, 2));
+            Check.same("all: VARIABLES", 1, x.unit(u, 3));
+            Check.same("all: DONE", 2, x.state(u));
+            Check.same("all: touches", 1 << (u + 1) % 7, x.touches(u));
+            Check.same("all: reach", 127, x.reach(u));
+            Check.same("all: ring", 127, x.ring(u));
+            Check.same("all: begun", (u + 6) % 7, x.begun(u));
+            Check.same("all: move", 1, x.move(u, 0, 11));
+            Check.same("all: move", 1, x.move(u, 11, 0));
+            Check.same("all: trace", (u + 6) % 7 * 100 + 99, x.trace(0, u));
+        }
+        Check.same("all: WORK", 1 + 7 * 13, x.lazy(6));
+        Check.same("all: FEWEST", 1, x.fewest(0));
+        Check.same("all: ORDERS", 5040, x.fewest(2));
+        Check.same("all: alike", 1, x.alike(6543210));
+        Check.same("all: least", 1, x.least(0));
+        Check.same("all: breaks", 6, x.breaks(123456));
+        Check.same("all: breaks", 1, x.breaks(6543210));
+        BeginJudge y = Check.told("unit A{var x;do B.x+C.x+D.x+E.x+F.x+G.x;}unit B{var x;do A.x+C.x+D.x+E.x+F.x+G.x;}"
+                + "unit C{var x;do A.x+B.x+D.x+E.x+F.x+G.x;}unit D{var x;do A.x+B.x+C.x+E.x+F.x+G.x;}unit E{var x;do A.x+B.x+C.x+D.x+F.x+G.x;}"
+                + "unit F{var x;do A.x+B.x+C.x+D.x+E.x+G.x;}unit G{var x;do A.x+B.x+C.x+D.x+E.x+F.x;}");
+        Check.same("all: the least ORDER, asked first", 123456, y.least(1));
+        Check.same("all: each couple is broken one way", 21, y.least(0));
     }
 
     private static void promise25() {
