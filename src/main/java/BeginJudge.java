@@ -353,7 +353,7 @@ public final class BeginJudge {
 
     /** Only one SURPRISE is kept at a time: rows for all of them would fill the room. */
     private Sight sightOf(int k) {
-        if (plainRun.sight.wanted != k || !plainRun.sight.kept) {
+        if (plainRun.sight.wanted != k) {
             plainRun.sight.wanted = k;
             plainRun.runPlainly(units);
         }
@@ -1126,7 +1126,6 @@ public final class BeginJudge {
     /** What is known of the one SURPRISE of a RUN that is wanted. */
     private static final class Sight {
         int wanted;
-        boolean kept;
         int openCount;
         final int[] open;
         private int member;
@@ -1141,7 +1140,6 @@ public final class BeginJudge {
         }
 
         void keep(Run run, int m) {
-            kept = true;
             member = m;
             name = run.units.name[m];
             seen = run.value[m];
@@ -1223,8 +1221,6 @@ public final class BeginJudge {
             lost = 0;
             failedSteps = 0;
             tooMuch = false;
-            step = 0;
-            sight.kept = false;
         }
 
         void runMain() {

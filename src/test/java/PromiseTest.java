@@ -108,6 +108,10 @@ public final class PromiseTest {
         Check.same("3: and other ORDERS", 2, y.fewest(2));
         Check.tell(y, "unit A{var x=3;}");
         Check.same("3: the STEPS of old are gone", 0, y.value(0, 'x' - 'a'));
+        for (int i = 0; i < 30; i++) {
+            Check.tell(y, "main{" + "do 1+2+3+4+5+6+7+8;".repeat(10) + "}");
+            Check.same("3: as often as wanted", 80, y.lazy(6));
+        }
     }
 
     private static void told(String what, String text, int units) {
