@@ -86,6 +86,25 @@ final class Check {
         return x;
     }
 
+    /** A text that has no FAULT, and how many UNITS it tells. */
+    static void isTold(String what, String text, int units) {
+        BeginJudge x = new BeginJudge();
+        same(what + ": " + text, units, tell(x, text));
+        same("no place, " + what + ": " + text, -1, x.fault());
+    }
+
+    static void faultIs(String what, String text, int fault, int place) {
+        BeginJudge x = new BeginJudge();
+        same(what + ": " + text, fault - 10, tell(x, text));
+        same("the place, " + what + ": " + text, place, x.fault());
+    }
+
+    /** The FAULT stands where the bar is, which is left out. */
+    static void faultAt(int fault, String text) {
+        int place = text.indexOf('|');
+        faultIs("FAULT " + fault, text.substring(0, place) + text.substring(place + 1), fault, place);
+    }
+
     static void end() {
         System.out.println(checked + " checks, " + wrong + " wrong");
         System.exit(wrong == 0 ? 0 : 1);

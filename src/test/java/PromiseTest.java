@@ -95,11 +95,11 @@ public final class PromiseTest {
         Check.same("3: ON at first", 1, x.member(0, 0, 1));
         Check.same("3: an empty text", 0, x.text(0));
         Check.same("3: no UNITS", 0, x.told(0));
-        told("words and letters side by side", "unitA{var x;doA.x;}main{do5;doA.x;}", 1);
-        told("blanks everywhere", " unit A { var x = ( 1 + 2 ) ; fun f { A . x = 3 ; give A . x ; } do A . f ( ) ; } main { } ", 1);
-        told("999 and 0", "main{do 999*0*000;}", 0);
-        told("the longest text", "main{do 1;}" + " ".repeat(589), 0);
-        fault("as many signs as bytes", "{".repeat(600), 1, 0);
+        Check.isTold("3: words and letters side by side", "unitA{var x;doA.x;}main{do5;doA.x;}", 1);
+        Check.isTold("3: blanks everywhere", " unit A { var x = ( 1 + 2 ) ; fun f { A . x = 3 ; give A . x ; } do A . f ( ) ; } main { } ", 1);
+        Check.isTold("3: 999 and 0", "main{do 999*0*000;}", 0);
+        Check.isTold("3: the longest text", "main{do 1;}" + " ".repeat(589), 0);
+        Check.faultIs("3: as many signs as bytes", "{".repeat(600), 1, 0);
         BeginJudge y = Check.told(HALF);
         y.lazy(0);
         y.fewest(0);
@@ -114,134 +114,116 @@ public final class PromiseTest {
         }
     }
 
-    private static void told(String what, String text, int units) {
-        BeginJudge x = new BeginJudge();
-        Check.same("3: " + what, units, Check.tell(x, text));
-        Check.same("3: no place, " + what, -1, x.fault());
-    }
-
-    private static void fault(String what, String text, int fault, int place) {
-        BeginJudge x = new BeginJudge();
-        Check.same("3: " + what + ": " + text, fault - 10, Check.tell(x, text));
-        Check.same("4: " + what + ": " + text, place, x.fault());
-    }
-
-    /** The FAULT stands where the bar is, which is left out. */
-    private static void faultAt(int fault, String text) {
-        int place = text.indexOf('|');
-        fault("FAULT " + fault, text.substring(0, place) + text.substring(place + 1), fault, place);
-    }
-
     private static void promise3Faults() {
-        faultAt(1, "unit|");
-        faultAt(1, "unit A|");
-        faultAt(1, "unit A{  |");
-        faultAt(1, "unit |H{}");
-        faultAt(1, "unit |AB{}");
-        faultAt(1, "unit |Aa{}");
-        faultAt(1, "unit |AZ{}");
-        faultAt(1, "unit |Az{}");
-        faultAt(1, "unit |AB");
-        faultAt(1, "unit A{var |xz");
-        faultAt(1, "unit A|1{}");
-        faultAt(1, "|units A{}");
-        faultAt(1, "unit A:|{}");
-        faultAt(1, "unit A{}unit B:|AB{}");
-        faultAt(1, "unit A{|varx;}");
-        faultAt(1, "unit A{var |xy;}");
-        faultAt(1, "unit A{var |xA;}");
-        faultAt(1, "unit A{var |X;}");
-        faultAt(1, "unit A{var x=|;}");
-        faultAt(1, "unit A{var x|}");
-        faultAt(1, "unit A{const k|;}");
-        faultAt(1, "unit A{const k=|A.k;}");
-        faultAt(1, "unit A{const k=1|+1;}");
-        faultAt(1, "unit A{|give 1;}");
-        faultAt(1, "unit A{|main{}}");
-        faultAt(1, "unit A{fun f{|do 1;give 1;}}");
-        faultAt(1, "unit A{fun f{give 1|}}");
-        faultAt(1, "unit A{fun f{give 1;|give 2;}}");
-        faultAt(1, "unit A{fun f|(){give 1;}}");
-        faultAt(1, "main{do |Ax;}");
-        faultAt(1, "main{do A|;}");
-        faultAt(1, "main{do A.|B;}");
-        faultAt(1, "main{do A.x(|1);}");
-        faultAt(1, "main{do (1|;}");
-        faultAt(1, "main{do 1|);}");
-        faultAt(1, "main{do |-1;}");
-        faultAt(1, "main{do 1+|+1;}");
-        faultAt(1, "main{do 1|/1;}");
-        faultAt(1, "main{do |fails;}");
-        faultAt(1, "main{do fail|A.x;}");
-        faultAt(1, "main{A.x|;}");
-        faultAt(1, "main{|var x;}");
-        faultAt(1, "main{}|main{}");
-        faultAt(1, "main{}|unit A{}");
-        faultAt(1, "main{} |x");
-        faultAt(1, "unit A{}|\0");
-        faultAt(1, "|\u00e9");
-        faultAt(2, "main{do |1000;}");
-        faultAt(2, "main{do 1+|99999999999999999999;}");
-        faultAt(2, "unit A{const k=|4294967297;}");
+        Check.faultAt(1, "unit|");
+        Check.faultAt(1, "unit A|");
+        Check.faultAt(1, "unit A{  |");
+        Check.faultAt(1, "unit |H{}");
+        Check.faultAt(1, "unit |AB{}");
+        Check.faultAt(1, "unit |Aa{}");
+        Check.faultAt(1, "unit |AZ{}");
+        Check.faultAt(1, "unit |Az{}");
+        Check.faultAt(1, "unit |AB");
+        Check.faultAt(1, "unit A{var |xz");
+        Check.faultAt(1, "unit A|1{}");
+        Check.faultAt(1, "|units A{}");
+        Check.faultAt(1, "unit A:|{}");
+        Check.faultAt(1, "unit A{}unit B:|AB{}");
+        Check.faultAt(1, "unit A{|varx;}");
+        Check.faultAt(1, "unit A{var |xy;}");
+        Check.faultAt(1, "unit A{var |xA;}");
+        Check.faultAt(1, "unit A{var |X;}");
+        Check.faultAt(1, "unit A{var x=|;}");
+        Check.faultAt(1, "unit A{var x|}");
+        Check.faultAt(1, "unit A{const k|;}");
+        Check.faultAt(1, "unit A{const k=|A.k;}");
+        Check.faultAt(1, "unit A{const k=1|+1;}");
+        Check.faultAt(1, "unit A{|give 1;}");
+        Check.faultAt(1, "unit A{|main{}}");
+        Check.faultAt(1, "unit A{fun f{|do 1;give 1;}}");
+        Check.faultAt(1, "unit A{fun f{give 1|}}");
+        Check.faultAt(1, "unit A{fun f{give 1;|give 2;}}");
+        Check.faultAt(1, "unit A{fun f|(){give 1;}}");
+        Check.faultAt(1, "main{do |Ax;}");
+        Check.faultAt(1, "main{do A|;}");
+        Check.faultAt(1, "main{do A.|B;}");
+        Check.faultAt(1, "main{do A.x(|1);}");
+        Check.faultAt(1, "main{do (1|;}");
+        Check.faultAt(1, "main{do 1|);}");
+        Check.faultAt(1, "main{do |-1;}");
+        Check.faultAt(1, "main{do 1+|+1;}");
+        Check.faultAt(1, "main{do 1|/1;}");
+        Check.faultAt(1, "main{do |fails;}");
+        Check.faultAt(1, "main{do fail|A.x;}");
+        Check.faultAt(1, "main{A.x|;}");
+        Check.faultAt(1, "main{|var x;}");
+        Check.faultAt(1, "main{}|main{}");
+        Check.faultAt(1, "main{}|unit A{}");
+        Check.faultAt(1, "main{} |x");
+        Check.faultAt(1, "unit A{}|\0");
+        Check.faultAt(1, "|\u00e9");
+        Check.faultAt(2, "main{do |1000;}");
+        Check.faultAt(2, "main{do 1+|99999999999999999999;}");
+        Check.faultAt(2, "unit A{const k=|4294967297;}");
     }
 
     private static void promise3FaultsTooMany() {
         String units = "unit A{}unit B{}unit C{}unit D{}unit E{}unit F{}unit G{}";
-        told("seven UNITS", units, 7);
-        faultAt(3, units + "|unit A{}");
-        faultAt(1, units + "|units A{}");
+        Check.isTold("3: seven UNITS", units, 7);
+        Check.faultAt(3, units + "|unit A{}");
+        Check.faultAt(1, units + "|units A{}");
         String members = "do 1;".repeat(12);
-        told("twelve MEMBERS", "unit A{" + members + "}", 1);
-        faultAt(3, "unit A{" + members + "|do 1;}");
-        faultAt(3, "unit A{" + members + "|fun}");
-        faultAt(3, "unit A{" + members + "|A}");
-        faultAt(1, "unit A{" + members + "|AA}");
-        faultAt(1, "unit A{" + members + "|done;}");
-        faultAt(1, "unit A{" + members + "|;}");
+        Check.isTold("3: twelve MEMBERS", "unit A{" + members + "}", 1);
+        Check.faultAt(3, "unit A{" + members + "|do 1;}");
+        Check.faultAt(3, "unit A{" + members + "|fun}");
+        Check.faultAt(3, "unit A{" + members + "|A}");
+        Check.faultAt(1, "unit A{" + members + "|AA}");
+        Check.faultAt(1, "unit A{" + members + "|done;}");
+        Check.faultAt(1, "unit A{" + members + "|;}");
         String steps = "do 1;".repeat(10);
-        told("ten STEPS", "main{" + steps + "}", 0);
-        faultAt(3, "main{" + steps + "|do 1;}");
-        faultAt(3, "main{" + steps + "|G}");
-        faultAt(1, "main{" + steps + "|var x;}");
+        Check.isTold("3: ten STEPS", "main{" + steps + "}", 0);
+        Check.faultAt(3, "main{" + steps + "|do 1;}");
+        Check.faultAt(3, "main{" + steps + "|G}");
+        Check.faultAt(1, "main{" + steps + "|var x;}");
         String sets = "A.x=1;".repeat(4);
-        told("four SETS", "unit A{var x;fun f{" + sets + "give 1;}}", 1);
-        faultAt(3, "unit A{var x;fun f{" + sets + "|A.x=1;give 1;}}");
-        faultAt(1, "unit A{var x;fun f{" + sets + "|H.x=1;give 1;}}");
-        told("eight TERMS", "main{do 1+2+3+4+5+6+7+8;}", 0);
-        told("eight TERMS in each SUM", "main{do 1+2+3+4+5+6+7+8;do 1+2+3+4+5+6+(7);}", 0);
-        faultAt(3, "main{do 1+2+3+4+5+6+7+8+|9;}");
-        faultAt(2, "main{do 1+2+3+4+5+6+7+8+|1000;}");
-        faultAt(3, "main{do 1+2+3+4+5+6+7+8+|fail;}");
-        faultAt(3, "main{do 1+2+3+4+5+6+7+8+|(1);}");
-        faultAt(3, "main{do 1+2+3+4+5+6+7+8+|A;}");
-        faultAt(1, "main{do 1+2+3+4+5+6+7+8+|H.x;}");
-        faultAt(3, "main{do 1+2+3+4+5+6+7+(|8);}");
-        told("seven times in ( )", "main{do (((((((1)))))));}", 0);
-        faultAt(3, "main{do ((((((((|1))))))));}");
-        faultAt(3, "main{do (1)+(2)+(3)+(4)+|(5);}");
+        Check.isTold("3: four SETS", "unit A{var x;fun f{" + sets + "give 1;}}", 1);
+        Check.faultAt(3, "unit A{var x;fun f{" + sets + "|A.x=1;give 1;}}");
+        Check.faultAt(1, "unit A{var x;fun f{" + sets + "|H.x=1;give 1;}}");
+        Check.isTold("3: eight TERMS", "main{do 1+2+3+4+5+6+7+8;}", 0);
+        Check.isTold("3: eight TERMS in each SUM", "main{do 1+2+3+4+5+6+7+8;do 1+2+3+4+5+6+(7);}", 0);
+        Check.faultAt(3, "main{do 1+2+3+4+5+6+7+8+|9;}");
+        Check.faultAt(2, "main{do 1+2+3+4+5+6+7+8+|1000;}");
+        Check.faultAt(3, "main{do 1+2+3+4+5+6+7+8+|fail;}");
+        Check.faultAt(3, "main{do 1+2+3+4+5+6+7+8+|(1);}");
+        Check.faultAt(3, "main{do 1+2+3+4+5+6+7+8+|A;}");
+        Check.faultAt(1, "main{do 1+2+3+4+5+6+7+8+|H.x;}");
+        Check.faultAt(3, "main{do 1+2+3+4+5+6+7+(|8);}");
+        Check.isTold("3: seven times in ( )", "main{do (((((((1)))))));}", 0);
+        Check.faultAt(3, "main{do ((((((((|1))))))));}");
+        Check.faultAt(3, "main{do (1)+(2)+(3)+(4)+|(5);}");
     }
 
     private static void promise3FaultsNames() {
-        faultAt(4, "unit A{}unit |A{}");
-        faultAt(4, "unit A:|A{}");
-        faultAt(4, "unit A:|B{}unit B{}");
-        faultAt(4, "unit A{var x;fun |x{give 1;}}");
-        faultAt(4, "unit A{const x=1;var |x;}");
-        told("one name in two UNITS", "unit A{var x;}unit B{var x;}", 2);
-        faultAt(4, "unit A{do B.x;}unit |A{}");
-        faultAt(1, "unit A{do B.x;}unit C{|");
-        faultAt(5, "unit A{do |B.x;}");
-        faultAt(5, "unit A{do |A.x;}");
-        faultAt(5, "unit A{const k=1;|A.k=2;}");
-        faultAt(5, "unit A{fun f{give 1;}|A.f=2;}");
-        faultAt(5, "unit A{fun f{give 1;}do |A.f;}");
-        faultAt(5, "unit A{var v;do |A.v();}");
-        faultAt(5, "unit A{const k=1;do |A.k();}");
-        faultAt(5, "unit A{|A.y=B.z;}unit B{}");
-        faultAt(5, "unit A{var y;A.y=|B.z;}unit B{}main{C.x=1;}");
-        faultAt(5, "unit A{fun f{|A.q=1;give A.r;}}");
-        faultAt(5, "unit A{}main{do 1+(2*|A.f());}");
-        told("told behind", "unit A{do B.x+B.f();}unit B{var x;fun f{give 1;}}", 2);
+        Check.faultAt(4, "unit A{}unit |A{}");
+        Check.faultAt(4, "unit A:|A{}");
+        Check.faultAt(4, "unit A:|B{}unit B{}");
+        Check.faultAt(4, "unit A{var x;fun |x{give 1;}}");
+        Check.faultAt(4, "unit A{const x=1;var |x;}");
+        Check.isTold("3: one name in two UNITS", "unit A{var x;}unit B{var x;}", 2);
+        Check.faultAt(4, "unit A{do B.x;}unit |A{}");
+        Check.faultAt(1, "unit A{do B.x;}unit C{|");
+        Check.faultAt(5, "unit A{do |B.x;}");
+        Check.faultAt(5, "unit A{do |A.x;}");
+        Check.faultAt(5, "unit A{const k=1;|A.k=2;}");
+        Check.faultAt(5, "unit A{fun f{give 1;}|A.f=2;}");
+        Check.faultAt(5, "unit A{fun f{give 1;}do |A.f;}");
+        Check.faultAt(5, "unit A{var v;do |A.v();}");
+        Check.faultAt(5, "unit A{const k=1;do |A.k();}");
+        Check.faultAt(5, "unit A{|A.y=B.z;}unit B{}");
+        Check.faultAt(5, "unit A{var y;A.y=|B.z;}unit B{}main{C.x=1;}");
+        Check.faultAt(5, "unit A{fun f{|A.q=1;give A.r;}}");
+        Check.faultAt(5, "unit A{}main{do 1+(2*|A.f());}");
+        Check.isTold("3: told behind", "unit A{do B.x+B.f();}unit B{var x;fun f{give 1;}}", 2);
     }
 
     private static void promise4() {
