@@ -458,6 +458,11 @@ public final class EdgeCallTest {
         indexBelow("10: MEMBER of twelve", 12, z, i -> y -> y.member(2, i, 4));
         indexBelow("10: MEMBER of one", 1, z, i -> y -> y.member(1, i, 4));
         indexBelow("10: MEMBER of none", 0, z, i -> y -> y.member(0, i, 4));
+        BeginJudge first = Check.told("unit A{var v;do fail;}unit B{fun f{give fail+A.v;}}");
+        Check.same("9: the first is a VARIABLE", 1, first.unit(0, 3));
+        Check.same("9: the first is a FUNCTION", 1, first.unit(1, 4));
+        Check.same("10: fail is a TERM", 1, first.member(0, 1, 3));
+        Check.same("10: fail is a TERM", 2, first.member(1, 0, 3));
         // Counted are all, ON or OFF; "0 without" a SUM; NONE for what has no name, no number.
         BeginJudge k = Check.told("unit A{const k=0;const l=999;var v;var w=1+1+1+1+1+1+1+1;do ((1));A.v=(1+2);fun f{give 1;}"
                 + "fun g{A.v=1+1;A.v=1;A.v=1;A.v=1;give (1)+2;}}unit B{}");
@@ -514,6 +519,18 @@ public final class EdgeCallTest {
         }
         x.turn(0, 0);
         Check.same("13: OFF, it is there and 0", 0, x.value(0, 0));
+        // The UNITS ahead and behind have a and z: no name goes over into them.
+        String ends = "var a=1;var z=2;}";
+        BeginJudge seven = Check.told("unit A{" + ends + "unit B{" + ends + "unit C{" + ends + "unit D{" + ends + "unit E{" + ends + "unit F{" + ends
+                + "unit G{" + ends);
+        for (int unit = 0; unit < 7; unit++) {
+            int u = unit;
+            Check.same("13: a of " + u, 0, seven.value(u, 0));
+            Check.same("13: z of " + u, 0, seven.value(u, 25));
+            for (int name : new int[] {-26, -1, 26, 26 + 25}) {
+                refused("13: name " + name + " of " + u, Check.NO_SUCH, () -> seven, y -> y.value(u, name));
+            }
+        }
     }
 
     /** Promise 14: each of the four; no such UNIT. */
@@ -612,6 +629,17 @@ public final class EdgeCallTest {
         Check.same("19: DONE behind LAZY", 0, Check.told(text.replace("#", "do A.v;")).alike(1));
         Check.same("19: BROKEN behind LAZY", 1, Check.told(text.replace("#", "do A.v;").replace("var v=B.w;", "var v=B.w;do fail;")).alike(1));
         Check.same("19: a UNIT without VARIABLES", 1, Check.told("unit A{fun f{give 1;}}main{do A.f();}").alike(0));
+        // Of seven UNITS just one has another VARIABLE.
+        for (char other = 'A'; other <= 'G'; other++) {
+            StringBuilder s = new StringBuilder();
+            StringBuilder all = new StringBuilder();
+            for (char u = 'A'; u <= 'G'; u++) {
+                s.append("unit ").append(u).append("{var a;var b=").append(u == other ? (u == 'A' ? "B.a" : "A.a") : "1").append(";}");
+                all.append(u == other ? "" : "+" + u + ".b");
+            }
+            String main = "main{" + (other == 'A' ? "B" : "A") + ".a=5;do " + all.substring(1) + ";do " + other + ".b;}";
+            Check.same("19: " + other + " alone has another", 0, Check.told(s + main).alike(123456));
+        }
         // A is DONE within B by LAZY, but BROKEN by B if it is ahead: its VARIABLES alone count.
         String within = "unit A{var v=1;do B.w;#}unit B{var w;do A.v;do fail;}main{do B.w;}";
         Check.same("19: BROKEN by EAGER, yet as by LAZY", 1, Check.told(within.replace("#", "")).alike(1));

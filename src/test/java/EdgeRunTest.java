@@ -81,6 +81,13 @@ public final class EdgeRunTest {
             BeginJudge x = Check.told("unit A{var v=" + sums[i] + ";}main{do A.v;}");
             Check.same("from the left: " + sums[i], due[i], x.value(0, name('v')));
         }
+        // A SUM waits with all that it has worked out, while FUNCTIONS and UNITS work out theirs.
+        BeginJudge deep = Check.told("unit A{fun f{give 9-(8-(7-(A.g()-5)));}fun g{give 1+(2*(3+(4*B.v)));}}unit B{var v=6-(5-(4-(3-2)));}"
+                + "unit C{var v=1+(10*(2+(A.f()*100)));}main{do C.v;}");
+        int b = 6 - (5 - (4 - (3 - 2)));
+        int g = 1 + 2 * (3 + 4 * b);
+        int f = 9 - (8 - (7 - (g - 5)));
+        Check.same("a SUM in a SUM in a SUM", 1 + 10 * (2 + f * 100), deep.value(2, name('v')));
         // TERMS are worked out from the left: f counts, and gives what it was.
         BeginJudge x = Check.told("unit A{var n;fun f{A.n=A.n+1;give A.n;}var v=A.f()*100+(A.f()*10)+A.f();}main{do A.v;}");
         Check.same("TERMS from the left", 123, x.value(0, name('v')));
@@ -591,6 +598,9 @@ public final class EdgeRunTest {
         fewestIs("unit A{}unit B{do B.v+B.v;var v=1;}main{do B.v;}", 2, 1, 2);
         fewestIs("unit A{do B.v;var w=1;}unit B{do A.w;var v=1;}", 1, 1, 2);
         fewestIs("unit A{do B.v;var w=1;}unit B{do A.w+A.w;var v=1;}", 1, 10, 1);
+        // MAIN is TOO MUCH by each ORDER, in whatever state it finds A: BROKEN, or, with D ahead of all, DONE.
+        fewestIs("unit A{do C.w;var x;}unit B{do A.x;do fail;}unit C{var w;do D.z;do A.x;do fail;}unit D{var z;do C.w;do fail;}"
+                + DEAR.replace("unit A", "unit E").replace("A.", "E.") + "main{do E.c()+E.c()+E.c()+E.c()+E.c()+E.c();}", 1000000, 1234, 120);
     }
 
     private static void fewestIs(String text, int... due) {

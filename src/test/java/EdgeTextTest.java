@@ -392,6 +392,9 @@ public final class EdgeTextTest {
             fine(text.replace("|", ""), text.contains("unit") ? 1 : 0);
             at(1, ahead + word.substring(1) + rest);
             at(1, ahead + word.substring(0, word.length() - 1) + rest);
+            for (int i = 0; i < word.length(); i++) {
+                at(1, ahead + word.substring(0, i) + "y" + word.substring(i + 1) + rest);
+            }
             at(1, ahead + word + "a" + rest);
             at(1, ahead + word + "z" + rest);
             at(1, ahead + word + word + rest);
